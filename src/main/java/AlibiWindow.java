@@ -61,9 +61,7 @@ public final class AlibiWindow {
     // ---- settings and values
 
     public int set(int setting, int value) throws IndexOutOfBoundsException, IllegalArgumentException {
-        if (setting < 0 || setting >= SETTINGS) {
-            throw new IndexOutOfBoundsException("no such setting");
-        }
+        checkPlace(setting, SETTINGS);
         if (value < 1 || value > Machine.greatest(setting)) {
             throw new IllegalArgumentException("value is out of range");
         }
@@ -75,43 +73,32 @@ public final class AlibiWindow {
 
     public int putRegister(int register, int bits)
             throws IndexOutOfBoundsException, IllegalArgumentException, IllegalStateException {
-        if (register < 0 || register >= REGISTERS) {
-            throw new IndexOutOfBoundsException("no such register");
-        }
-        checkValue(bits);
-        saveState();
-        int previous = now.registers[register];
-        now.registers[register] = bits;
-        return previous;
+        return putValue(now.registers, register, bits);
     }
 
     public int putCell(int cell, int bits)
             throws IndexOutOfBoundsException, IllegalArgumentException, IllegalStateException {
-        if (cell < 0 || cell >= CELLS) {
-            throw new IndexOutOfBoundsException("no such cell");
-        }
-        checkValue(bits);
-        saveState();
-        int previous = now.memory[cell];
-        now.memory[cell] = bits;
-        return previous;
+        return putValue(now.memory, cell, bits);
     }
 
-    private void checkValue(int bits) {
+    private int putValue(int[] values, int place, int bits) {
+        checkPlace(place, values.length);
         if (!Floats.isInRange(bits)) {
             throw new IllegalArgumentException("not the bits of a float in the range");
         }
         if (now.entries() > 0) {
             throw new IllegalStateException("the window has entries");
         }
+        saveState();
+        int previous = values[place];
+        values[place] = bits;
+        return previous;
     }
 
     // ---- cycles
 
     public int run(int cycles) throws IllegalArgumentException, IllegalStateException {
-        if (cycles < 1 || cycles > RUN_LIMIT) {
-            throw new IllegalArgumentException("cycles is out of range");
-        }
+        checkCycles(cycles);
         if (now.cycle + cycles > CYCLE_LIMIT) {
             throw new IllegalStateException("the number of the cycle would be too great");
         }
@@ -119,6 +106,12 @@ public final class AlibiWindow {
         int before = now.retiredEver;
         now.passCycles(cycles);
         return now.retiredEver - before;
+    }
+
+    private void checkCycles(int cycles) {
+        if (cycles < 1 || cycles > RUN_LIMIT) {
+            throw new IllegalArgumentException("cycles is out of range");
+        }
     }
 
     public int flush() {
@@ -203,28 +196,24 @@ public final class AlibiWindow {
     // ---- what there is
 
     public int instruction(int instruction, int what) throws IndexOutOfBoundsException, IllegalArgumentException {
-        if (instruction < 0 || instruction >= now.length) {
-            throw new IndexOutOfBoundsException("no such instruction");
-        }
+        checkPlace(instruction, now.length);
         checkWhat(what, INSTRUCTION_PARTS);
         return now.at(instruction).part(what);
     }
 
     public int entry(int entry, int what) throws IndexOutOfBoundsException, IllegalArgumentException {
-        checkEntry(entry);
+        checkPlace(entry, now.entries());
         checkWhat(what, ENTRY_PROPERTIES);
         return now.property(now.retired + entry, what);
     }
 
     public int whyNot(int entry) throws IndexOutOfBoundsException {
-        checkEntry(entry);
+        checkPlace(entry, now.entries());
         return now.hindrance(now.retired + entry);
     }
 
     public int register(int register, int what) throws IndexOutOfBoundsException, IllegalArgumentException {
-        if (register < 0 || register >= REGISTERS) {
-            throw new IndexOutOfBoundsException("no such register");
-        }
+        checkPlace(register, REGISTERS);
         checkWhat(what, REGISTER_FACTS);
         if (what == 2) {
             rehearsePlainOrder();
@@ -233,9 +222,7 @@ public final class AlibiWindow {
     }
 
     public int cell(int cell, int what) throws IndexOutOfBoundsException, IllegalArgumentException {
-        if (cell < 0 || cell >= CELLS) {
-            throw new IndexOutOfBoundsException("no such cell");
-        }
+        checkPlace(cell, CELLS);
         checkWhat(what, CELL_FACTS);
         if (what == 1) {
             rehearsePlainOrder();
@@ -249,21 +236,19 @@ public final class AlibiWindow {
     }
 
     public int setting(int setting) throws IndexOutOfBoundsException {
-        if (setting < 0 || setting >= SETTINGS) {
-            throw new IndexOutOfBoundsException("no such setting");
-        }
+        checkPlace(setting, SETTINGS);
         return now.settings[setting];
+    }
+
+    private void checkPlace(int place, int bound) {
+        if (place < 0 || place >= bound) {
+            throw new IndexOutOfBoundsException("there is no such place");
+        }
     }
 
     private void checkWhat(int what, int bound) {
         if (what < 0 || what >= bound) {
             throw new IllegalArgumentException("there is nothing of this number to tell");
-        }
-    }
-
-    private void checkEntry(int entry) {
-        if (entry < 0 || entry >= now.entries()) {
-            throw new IndexOutOfBoundsException("no such entry");
         }
     }
 
@@ -282,9 +267,7 @@ public final class AlibiWindow {
     // ---- what would be
 
     public int ifRun(int cycles, int what) throws IllegalArgumentException {
-        if (cycles < 1 || cycles > RUN_LIMIT) {
-            throw new IllegalArgumentException("cycles is out of range");
-        }
+        checkCycles(cycles);
         checkWhat(what, FORECASTS);
         rehearseCycles(cycles);
         return rehearsed(what);

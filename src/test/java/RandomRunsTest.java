@@ -38,12 +38,11 @@ public final class RandomRunsTest {
             reference = new ReferenceWindow();
             calls.clear();
             made = 0;
-            int style = i % 3;
             while (made < CALLS) {
-                if (style == 0) {
-                    anyCall();
-                } else {
-                    likelyCall();
+                switch (i % 3) {
+                    case 0: anyCall(); break;
+                    case 1: likelyCall(); break;
+                    default: steps(); break;
                 }
             }
         }
@@ -93,6 +92,44 @@ public final class RandomRunsTest {
         } else {
             look();
         }
+    }
+
+    /** Cycles one by one in wide windows, with loads and stores that meet, and ways back. */
+    private void steps() throws Exception {
+        call("clearBuffer");
+        type(meetingProgram());
+        call("load");
+        call("set", 0, 4 + random.nextInt(5));
+        call("set", 1, 2 + random.nextInt(3));
+        call("set", 2, 1 + random.nextInt(4));
+        for (int i = 0; i < 8; i++) {
+            call("putCell", i, Float.floatToIntBits(i / 2.0f));
+        }
+        for (int i = 20 + random.nextInt(40); i > 0; i--) {
+            int choice = random.nextInt(30);
+            if (choice < 20) {
+                call("run", 1);
+            } else if (choice < 22) {
+                backAndForth(1 + random.nextInt(6));
+            } else if (choice == 22) {
+                call("flush");
+            } else if (choice == 23 && reference.count(10) == 1) {
+                call("again");
+            } else {
+                call("digest");
+            }
+        }
+    }
+
+    private void backAndForth(int states) throws Exception {
+        for (int i = 0; i < states; i++) {
+            call("undo");
+        }
+        lookAround();
+        for (int i = 0; i < states; i++) {
+            call("run", 1);
+        }
+        lookAround();
     }
 
     private void lookAround() throws Exception {
@@ -153,6 +190,17 @@ public final class RandomRunsTest {
                 case 4: text.append(r).append("=[").append(p).append(o).append(']'); break;
                 default: text.append('[').append(p).append(o).append("]=").append(q); break;
             }
+        }
+        return text.toString();
+    }
+
+    // Products of 0 or 1 delay some of the stores that share a few cells with the loads.
+    private String meetingProgram() {
+        String[] parts = {"a=4", "b=0", "b=b*b", "a=a*b", "c=a*b", "[b0]=a", "[b0]=c", "[b0]=d", "[a0]=c", "[c0]=b",
+            "[a1]=d", "c=[b0]", "d=[a0]", "d=[b0]", "a=[c0]", "c=[b1]", "d=c+d", "b=a+b"};
+        StringBuilder text = new StringBuilder(pick(parts));
+        for (int i = 10 + random.nextInt(8); i > 0 && text.length() < 112; i--) {
+            text.append(';').append(pick(parts));
         }
         return text.toString();
     }
