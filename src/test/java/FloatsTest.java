@@ -1,31 +1,35 @@
 import java.util.Random;
 
 /** Sums and products of all sorts of floats, against those that Java makes. */
-public final class FloatsTest {
+public final class FloatsTest extends Runs {
     private static final int PAIRS = 100000;
     private static final int[] EDGES = {0, 0x80000000, 1, 0x80000001, 2, 0x007FFFFF, 0x00800000, 0x00800001, 0x80800000,
         0x3F800000, 0xBF800000, 0x3F7FFFFF, 0x49742400, 0xC9742400, 0x497423FF, 0x447A0000, 0xC47A0001, 0x1A000000,
         0x20000000, 0x9A000001, 0x3E800000};
 
-    private static final Check CHECK = new Check();
+    private static AlibiWindow x;
+    private static int compared;
 
     public static void main(String[] args) {
-        AlibiWindow x = new AlibiWindow();
-        for (char c : "c=a+b;d=a*b;[a0]=b;[b9]=a".toCharArray()) {
-            x.append(c);
-        }
-        x.load();
         for (int p : EDGES) {
             for (int q : EDGES) {
-                compare(x, p, q);
+                compare(p, q);
             }
         }
         Random random = new Random(7);
         for (int i = 0; i < PAIRS; i++) {
-            compare(x, any(random), any(random));
+            compare(any(random), any(random));
         }
         setsAreQuarters();
         CHECK.end();
+    }
+
+    // An object is for 512 calls only, and a comparison makes seven of them.
+    private static void takeFreshObject() {
+        if (compared % 60 == 0) {
+            x = loaded("c=a+b;d=a*b;[a0]=b;[b9]=a");
+        }
+        compared++;
     }
 
     private static int any(Random random) {
@@ -34,7 +38,8 @@ public final class FloatsTest {
         return value >= -1000000.0f && value <= 1000000.0f ? bits : EDGES[random.nextInt(EDGES.length)];
     }
 
-    private static void compare(AlibiWindow x, int p, int q) {
+    private static void compare(int p, int q) {
+        takeFreshObject();
         float a = Float.intBitsToFloat(p);
         float b = Float.intBitsToFloat(q);
         x.putRegister(0, p);
@@ -54,12 +59,7 @@ public final class FloatsTest {
 
     private static void setsAreQuarters() {
         for (int n = -99; n <= 99; n++) {
-            AlibiWindow x = new AlibiWindow();
-            for (char c : ("a=" + n).toCharArray()) {
-                x.append(c);
-            }
-            x.load();
-            CHECK.due("a=" + n, x.register(0, 2), Float.floatToIntBits(n / 4.0f));
+            CHECK.due("a=" + n, loaded("a=" + n).register(0, 2), Float.floatToIntBits(n / 4.0f));
         }
     }
 }

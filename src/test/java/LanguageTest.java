@@ -21,6 +21,8 @@ public final class LanguageTest {
         "->", "::", "\\bsynchronized\\b", "\\bassert\\b", "\\bfinally\\b", "\\bcatch\\b", "static \\{",
         "\\bequals\\b", "\\bhashCode\\b", "\\btoString\\b", "\\bvar\\b", "\\+ \"", "\" \\+");
 
+    private static final Set<String> LIBRARY = Set.of("Math.floorMod", "System.arraycopy");
+
     private static final Check CHECK = new Check();
 
     public static void main(String[] args) throws IOException {
@@ -84,6 +86,11 @@ public final class LanguageTest {
         for (String banned : BANNED) {
             Matcher matcher = Pattern.compile(banned).matcher(code);
             CHECK.holds("no " + banned, !matcher.find());
+        }
+        Matcher calls = Pattern.compile("\\b(?:[A-Z][A-Za-z]*|java[a-z.]*)\\.[a-z]\\w*").matcher(code);
+        while (calls.find()) {
+            boolean isOwn = calls.group().matches("(Machine|Floats|Text|Instruction)\\..*");
+            CHECK.holds(calls.group() + " is of the library", isOwn || LIBRARY.contains(calls.group()));
         }
         CHECK.holds("signs are plain", text.chars().allMatch(c -> c == '\n' || c >= 32 && c < 127));
     }

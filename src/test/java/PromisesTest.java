@@ -1,19 +1,6 @@
 /** What each promise of the document says, by runs followed by hand. */
-public final class PromisesTest {
-    private static final Class<IndexOutOfBoundsException> INDEX = IndexOutOfBoundsException.class;
-    private static final Class<IllegalArgumentException> ARGUMENT = IllegalArgumentException.class;
-    private static final Class<IllegalStateException> STATE = IllegalStateException.class;
-    private static final int NONE = AlibiWindow.NONE;
-    private static final int ONE = Float.floatToIntBits(1.0f);
-    private static final int MILLION = Float.floatToIntBits(1000000.0f);
+public final class PromisesTest extends Runs {
     private static final int[] OUTSIDE = {-1, Integer.MIN_VALUE, Integer.MAX_VALUE};
-
-    // The load is done ahead of the store to its cell, which waits for the product.
-    private static final String EARLY_LOAD = "a=4;b=a*a;[b0]=a;c=[a0]";
-    // The load takes the value of the first store, as the second one waits for the product.
-    private static final String TWO_STORES = "a=4;b=a*a;[a0]=a;[b0]=b;c=[a0]";
-
-    private static final Check CHECK = new Check();
 
     public static void main(String[] args) {
         promise1();
@@ -42,48 +29,6 @@ public final class PromisesTest {
         promise24();
         promise25();
         CHECK.end();
-    }
-
-    private static AlibiWindow typed(String text) {
-        AlibiWindow x = new AlibiWindow();
-        type(x, text);
-        return x;
-    }
-
-    private static void type(AlibiWindow x, String text) {
-        for (int i = 0; i < text.length(); i++) {
-            x.append(text.charAt(i));
-        }
-    }
-
-    private static AlibiWindow loaded(String text) {
-        AlibiWindow x = typed(text);
-        x.load();
-        return x;
-    }
-
-    private static AlibiWindow ran(String text, int cycles) {
-        AlibiWindow x = loaded(text);
-        x.run(cycles);
-        return x;
-    }
-
-    private static void dueNumbers(AlibiWindow x, String when, int... wanted) {
-        for (int what = 0; what < wanted.length; what++) {
-            CHECK.due(when + ": count(" + what + ")", x.count(what), wanted[what]);
-        }
-    }
-
-    private static void dueEntry(AlibiWindow x, int entry, int... wanted) {
-        for (int what = 0; what < wanted.length; what++) {
-            CHECK.due("entry(" + entry + ", " + what + ") in cycle " + x.count(0), x.entry(entry, what), wanted[what]);
-        }
-    }
-
-    private static void dueParts(AlibiWindow x, int instruction, int... wanted) {
-        for (int what = 0; what < wanted.length; what++) {
-            CHECK.due("instruction(" + instruction + ", " + what + ")", x.instruction(instruction, what), wanted[what]);
-        }
     }
 
     private static void promise1() {
@@ -657,53 +602,16 @@ public final class PromisesTest {
     private static void promise25() {
         AlibiWindow empty = new AlibiWindow();
         CHECK.due("digest of a new object", empty.digest(), digestOf(empty, ""));
-        AlibiWindow x = loaded(EARLY_LOAD);
-        for (int i = 0; i < 12; i++) {
-            String text = "a=;".substring(0, i % 4);
-            x.clearBuffer();
+        for (int cycles = 1; cycles <= 12; cycles++) {
+            AlibiWindow x = ran(EARLY_LOAD, cycles);
+            String text = "a=;".substring(0, cycles % 4);
             type(x, text);
             CHECK.due("digest", x.digest(), digestOf(x, text));
-            x.run(1);
         }
+        AlibiWindow x = ran(EARLY_LOAD, 7);
         long before = x.digest();
         CHECK.due("digest changes nothing", x.digest(), before);
         x.append('a');
         CHECK.holds("digest tells of the buffer", x.digest() != before);
-    }
-
-    private static long digestOf(AlibiWindow x, String text) {
-        long hash = 2371;
-        for (int i = 0; i <= 11; i++) {
-            hash = 31 * hash + x.count(i);
-        }
-        for (int i = 0; i <= 2; i++) {
-            hash = 31 * hash + x.setting(i);
-        }
-        for (int i = 0; i < 7 * x.count(1); i++) {
-            hash = 31 * hash + x.instruction(i / 7, i % 7);
-        }
-        for (int i = 0; i < 9 * x.count(2); i++) {
-            hash = 31 * hash + x.entry(i / 9, i % 9);
-        }
-        for (int i = 0; i < 3 * 8; i++) {
-            hash = 31 * hash + x.register(i / 3, i % 3);
-        }
-        for (int i = 0; i < 2 * 16; i++) {
-            hash = 31 * hash + x.cell(i / 2, i % 2);
-        }
-        for (int i = 0; i <= 2; i++) {
-            hash = 31 * hash + x.ifRun(10, i);
-        }
-        hash = 31 * hash + x.cyclesLeft();
-        for (int i = 0; i <= 2; i++) {
-            hash = 31 * hash + x.bestWindow(i);
-        }
-        hash = 31 * hash + x.worstLoad();
-        hash = 31 * hash + Double.doubleToLongBits(x.earlyShare());
-        hash = 31 * hash + text.length();
-        for (int i = 0; i < text.length(); i++) {
-            hash = 31 * hash + text.charAt(i);
-        }
-        return hash;
     }
 }

@@ -7,8 +7,9 @@ import java.util.Random;
 
 /** Runs of calls from fixed seeds: the class and the reference must answer alike, exceptions too. */
 public final class RandomRunsTest {
-    private static final int RUNS = 600;
-    private static final int CALLS = 400;
+    private static final int RUNS = 1500;
+    // An object is for no more calls.
+    private static final int CALLS = 512;
     private static final String[] TWO_INTS = {"set", "putRegister", "putCell", "instruction", "entry", "register",
         "cell", "ifRun"};
     private static final String[] ONE_INT = {"run", "append", "whyNot", "count", "setting", "bestWindow"};
@@ -231,8 +232,10 @@ public final class RandomRunsTest {
     }
 
     private void call(String name, int... numbers) throws Exception {
-        // Letters are not counted, so that a run sees several programs.
-        made += name.equals("append") ? 0 : 1;
+        if (made >= CALLS) {
+            return;
+        }
+        made++;
         calls.add(name + Arrays.toString(numbers));
         Class<?>[] types = new Class<?>[numbers.length];
         Object[] values = new Object[numbers.length];
