@@ -30,7 +30,12 @@ public final class RandomRunsTest {
     }
 
     public static void main(String[] args) throws Exception {
-        new RandomRunsTest(20261119).runAll();
+        if (args.length == 0) {
+            new RandomRunsTest(20261119).runAll();
+        }
+        for (String seed : args) {
+            new RandomRunsTest(Long.parseLong(seed)).runAll();
+        }
     }
 
     private void runAll() throws Exception {
